@@ -1206,7 +1206,7 @@ public final class QuayBerths {
             return lines;
         }
 
-        private boolean isWrong(int fault, int place) {
+        private boolean refuse(int fault, int place) {
             this.fault = fault;
             this.place = place;
             return false;
@@ -1216,13 +1216,13 @@ public final class QuayBerths {
             int begin = at;
             int kind = lineKind(begin, passRow('a', 'z'));
             if (kind == NONE) {
-                return isWrong(CAN_NOT_STAND, begin);
+                return refuse(CAN_NOT_STAND, begin);
             }
             if (heard.isSetAlready(kind)) {
-                return isWrong(TOLD_ALREADY, begin);
+                return refuse(TOLD_ALREADY, begin);
             }
             if (heard.isFull(kind)) {
-                return isWrong(ONE_TOO_MANY, begin);
+                return refuse(ONE_TOO_MANY, begin);
             }
             if (kind == SHIP && !readName()) {
                 return false;
@@ -1234,7 +1234,7 @@ public final class QuayBerths {
             }
             skipBlanks();
             if (at >= length || tape[at] != ';') {
-                return isWrong(CAN_NOT_STAND, at);
+                return refuse(CAN_NOT_STAND, at);
             }
             at++;
             heard.take(kind, number);
@@ -1246,10 +1246,10 @@ public final class QuayBerths {
             int begin = at;
             int letters = passRow('a', 'z');
             if (letters < 1 || letters > NAME_LETTERS || lineKind(begin, letters) != NONE) {
-                return isWrong(CAN_NOT_STAND, begin);
+                return refuse(CAN_NOT_STAND, begin);
             }
             heard.nameNextShip(tape, begin, letters);
-            return !heard.isNextNameToldAlready() || isWrong(TOLD_ALREADY, begin);
+            return !heard.isNextNameToldAlready() || refuse(TOLD_ALREADY, begin);
         }
 
         private boolean readNumber(int kind, int i) {
@@ -1258,17 +1258,17 @@ public final class QuayBerths {
             int begin = at;
             int digits = passRow('0', '9');
             if (begin == behind || digits < 1 || digits > NUMBER_DIGITS) {
-                return isWrong(CAN_NOT_STAND, begin);
+                return refuse(CAN_NOT_STAND, begin);
             }
             int value = 0;
             for (int place = begin; place < at; place++) {
                 value = value * 10 + tape[place] - '0';
             }
             if (value < leastNumber(kind, i) || value > GREATEST_NUMBER[FIRST_NUMBER_OF[kind] + i]) {
-                return isWrong(OUT_OF_BOUNDS, begin);
+                return refuse(OUT_OF_BOUNDS, begin);
             }
             number[i] = value;
-            return !heard.isToldAlready(kind, i, number) || isWrong(TOLD_ALREADY, begin);
+            return !heard.isToldAlready(kind, i, number) || refuse(TOLD_ALREADY, begin);
         }
 
         private int leastNumber(int kind, int i) {

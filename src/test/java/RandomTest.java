@@ -29,7 +29,7 @@ public final class RandomTest {
   }
 
   public static void main(String[] args) throws Exception {
-    int runs = args.length > 0 ? Integer.parseInt(args[0]) : 250;
+    int runs = args.length > 0 ? Integer.parseInt(args[0]) : 120;
     long seed = args.length > 1 ? Long.parseLong(args[1]) : 1;
     RandomTest test = new RandomTest(seed);
     int wrong = 0;
