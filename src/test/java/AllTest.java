@@ -29,6 +29,10 @@ public final class AllTest {
       CHECK.due("not so many", quay.order(rule, Integer.MAX_VALUE), -2);
       CHECK.due("i -1", quay.order(rule, -1), -1);
     }
+    QuayBerths near = Check.told("ship a 10 0 0 0 6 0 0 1 1;ship b 10 0 0 0 5 0 3 1 1;ship c 10 0 0 0 300 0 0 1 1;"
+        + "ship d 10 0 0 0 0 0 1 1 1;");
+    CHECK.due("the slot comes ahead of the rank", near.order(1, 1), 1);
+    CHECK.due("the rank comes ahead of the slot", near.order(0, 2), 3);
     CHECK.due("rule 4", quay.order(4, 0), -1);
     CHECK.due("rule -1", quay.order(-1, 0), -1);
     CHECK.due("both", quay.order(4, 9), -1);
@@ -163,6 +167,11 @@ public final class AllTest {
     CHECK.due("first by numbers", quay.best(2), 0);
     CHECK.due("none can be put", quay.four(), -1);
     CHECK.due("no act", quay.count(11), 0);
+    QuayBerths five = Check.told("ship a 10 0 0 0 0 0 0 1 1;ship b 10 0 0 0 0 0 0 1 1;ship c 10 0 0 0 0 0 0 1 1;"
+        + "ship d 10 0 0 0 0 0 0 1 1;ship e 10 0 0 0 0 0 0 1 1;");
+    int[] due = {4, 0, 0, 1, 2, 3};
+    for (int what = 0; what < due.length; what++) CHECK.due("best " + what, five.best(what), due[what]);
+    CHECK.due("none can be put", five.four(), -1);
   }
 
   private static void bestAfterChanges() {

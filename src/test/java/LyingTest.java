@@ -20,6 +20,7 @@ public final class LyingTest {
     whatIsFree();
     whichCraneWorks();
     whichCraneIsPassedOver();
+    afterALookAtAnotherStay();
     whatIsLeft();
     shifts();
     busiestShift();
@@ -96,6 +97,27 @@ public final class LyingTest {
     for (int crane = 0; crane < 4; crane++) CHECK.due("hours " + crane, quay.hours(crane), hours[crane]);
     int[] without = {0, 1, 1, 1};
     for (int crane = 0; crane < 4; crane++) CHECK.due("without " + crane, quay.without(crane), without[crane]);
+  }
+
+  /** A look at other stays while c is away leaves no trace when c is back. */
+  private static void lookWithoutC(QuayBerths quay) {
+    CHECK.due("away", quay.away(0), true);
+    CHECK.due("breaks", quay.breaks(1, 40, 16, 1), 0);
+    CHECK.due("undo", quay.undo(), 3);
+  }
+
+  private static void afterALookAtAnotherStay() {
+    QuayBerths quay = harbour();
+    lookWithoutC(quay);
+    CHECK.due("lies", quay.lies(16, 2), 0);
+    lookWithoutC(quay);
+    CHECK.due("free", quay.free(16, 0), 10);
+    lookWithoutC(quay);
+    CHECK.due("works", quay.works(1, 10), 0);
+    lookWithoutC(quay);
+    CHECK.due("hours", quay.hours(1), 3);
+    lookWithoutC(quay);
+    CHECK.due("without", quay.without(1), 3);
   }
 
   private static void whatIsLeft() {

@@ -201,6 +201,7 @@ public final class RandomTest {
   /** A text without a fault; its harbours are so small that ships come into one another's way. */
   private String text() {
     List<String> lines = new ArrayList<>();
+    boolean full = random.nextInt(8) == 0;
     int quay = random.nextInt(4) == 0 ? some(50, 999) : some(80, 400);
     if (random.nextInt(8) > 0) lines.add("quay " + quay);
     else quay = 300;
@@ -209,29 +210,29 @@ public final class RandomTest {
     if (random.nextInt(2) == 0) lines.add("channel " + some(80, 150));
     if (random.nextInt(2) == 0) lines.add("rate " + (random.nextInt(4) == 0 ? some(1, 99) : some(5, 30)));
     if (random.nextInt(2) == 0) lines.add("loss " + some(0, 10));
-    int sections = random.nextInt(3) == 0 ? some(0, 8) : some(0, 2);
+    int sections = full ? 8 : random.nextInt(3) == 0 ? some(0, 8) : some(0, 2);
     for (int metre : distinct(sections, quay + 20)) {
       lines.add("section " + Math.min(999, metre) + " " + (random.nextInt(6) == 0 ? some(0, 300) : some(90, 160)));
     }
-    addTides(lines);
-    int cranes = random.nextInt(4) == 0 ? some(0, 8) : some(2, 5);
+    addTides(lines, full);
+    int cranes = full ? 8 : random.nextInt(4) == 0 ? some(0, 8) : some(2, 5);
     for (int i = 0; i < cranes; i++) {
       int first = some(0, quay);
       if (random.nextInt(4) > 0) first = Math.min(first, i * quay / (cranes + 1));
       lines.add("crane " + first + " " + some(random.nextInt(3) == 0 ? first : (first + quay) / 2, Math.min(999, first + quay)));
     }
-    for (int shift : distinct(random.nextInt(2) * some(0, 7), 21)) {
+    for (int shift : distinct(full ? 0 : random.nextInt(2) * some(0, 7), 21)) {
       lines.add("gangs " + shift / 3 + " " + shift % 3 + " " + some(0, random.nextInt(2) == 0 ? 9 : 5));
     }
-    addShips(lines, quay);
+    addShips(lines, quay, full);
     return joined(lines);
   }
 
-  private void addTides(List<String> lines) {
-    int tides = random.nextInt(3) == 0 ? some(0, 14) : some(0, 4);
+  private void addTides(List<String> lines, boolean full) {
+    int tides = full ? 30 : random.nextInt(3) == 0 ? some(0, 14) : some(0, 4);
     if (random.nextBoolean()) {
       boolean high = random.nextBoolean();
-      for (int slot = some(0, 12); slot < 336 && tides > 0; slot += some(8, 40), tides--, high = !high) {
+      for (int slot = some(0, 12); slot < 336 && tides > 0; slot += full ? 11 : some(8, 40), tides--, high = !high) {
         lines.add("tide " + slot + " " + (high ? some(30, 60) : some(0, 20)));
       }
     } else {
@@ -239,12 +240,12 @@ public final class RandomTest {
     }
   }
 
-  private void addShips(List<String> lines, int quay) {
-    int ships = random.nextInt(8) == 0 ? some(0, 14) : some(2, 9);
+  private void addShips(List<String> lines, int quay, boolean full) {
+    int ships = full ? 14 : random.nextInt(8) == 0 ? some(0, 14) : some(2, 9);
     List<String> names = new ArrayList<>();
     while (names.size() < ships) {
       StringBuilder name = new StringBuilder();
-      for (int i = some(1, random.nextInt(3) == 0 ? 8 : 2); i > 0; i--) name.append(ALPHABET.charAt(random.nextInt(26)));
+      for (int i = some(1, random.nextInt(3) == 0 && !full ? 8 : 2); i > 0; i--) name.append(ALPHABET.charAt(random.nextInt(26)));
       if (!names.contains(name.toString()) && !name.toString().matches("gap|keel|rate|loss|tide|ship|quay|crane")) {
         names.add(name.toString());
       }

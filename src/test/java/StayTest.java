@@ -81,6 +81,13 @@ public final class StayTest {
     CHECK.due("one metre too shallow", quay.breaks(D, 99, 2, 1), 6);
     CHECK.due("deep enough", quay.breaks(D, 100, 2, 1), 0);
     CHECK.due("its last metre is deep enough only", quay.breaks(D, 61, 0, 1), 6);
+    QuayBerths edges = Check.told("section 0 100;section 30 99;section 40 100;section 70 99;crane 0 299;"
+        + "ship a 30 100 100 12 0 99 0 1 1;");
+    CHECK.due("up to metre 69", edges.breaks(0, 40, 0, 1), 0);
+    CHECK.due("up to metre 70", edges.breaks(0, 41, 0, 1), 6);
+    CHECK.due("from metre 39 on", edges.breaks(0, 39, 0, 1), 6);
+    CHECK.due("up to metre 29", edges.breaks(0, 0, 0, 1), 0);
+    CHECK.due("up to metre 30", edges.breaks(0, 1, 0, 1), 6);
     QuayBerths falling = Check.told("channel 200;section 0 100;crane 0 99;tide 0 50;tide 10 40;"
         + "ship a 10 140 0 60 0 99 0 1 1;ship b 10 0 141 108 0 99 0 1 1;");
     // a lies in 5 slots, b in 9
@@ -102,6 +109,8 @@ public final class StayTest {
     CHECK.due("before it comes", quay.breaks(C, 60, 1, 1), 0);
     CHECK.due("till it comes, and on", quay.breaks(E, 0, 1, 1), 0);
     CHECK.due("its own stay is not counted", quay.breaks(A, 60, 3, 1), 0);
+    CHECK.due("it lies there still", quay.ship(A, 9), 50);
+    CHECK.due("with its cranes", quay.count(15), 4);
     // d works in slot 3, but lies there up to slot 7
     CHECK.due("put d", quay.put(D, 160, 3, 1), 8);
     CHECK.due("in the way though it does not work", quay.breaks(C, 160, 7, 1), 7);
@@ -206,6 +215,13 @@ public final class StayTest {
     CHECK.due("no such ship", quay.earliest(6, 1, 0), -1);
     CHECK.due("no such ship", quay.earliest(-1, 1, 0), -1);
     CHECK.due("nothing has changed", quay.count(10), 0);
+    CHECK.due("the least depth of its metres", Check.told("section 0 100;section 29 99;section 41 100;section 80 99;"
+        + "section 81 100;crane 0 299;ship a 30 100 100 12 0 99 0 1 1;").earliest(0, 1, 1), 50);
+    CHECK.due("a metre behind its own does not count", Check.told("section 0 100;section 30 99;crane 0 299;"
+        + "ship a 30 100 100 12 0 99 0 1 1;").earliest(0, 1, 1), 0);
+    CHECK.due("a crane at its last metre", Check.told("crane 29 29;ship a 10 0 0 12 0 99 0 1 1;").earliest(0, 1, 1), 20);
+    CHECK.due("a crane behind its last metre", Check.told("crane 30 30;ship a 10 0 0 12 0 99 0 1 1;").earliest(0, 1, 1), 30);
+    CHECK.due("a crane at metre 991", Check.told("quay 999;crane 991 998;ship a 9 0 0 12 0 99 0 1 1;").earliest(0, 1, 1), 990);
     CHECK.due("the last slots", Check.told("crane 0 9;ship a 10 0 0 12 334 0 0 1 1;").earliest(0, 1, 0), 334);
     CHECK.due("one slot too late", Check.told("crane 0 9;ship a 10 0 0 12 335 0 0 1 1;").earliest(0, 1, 0), -2);
   }
@@ -489,6 +505,10 @@ public final class StayTest {
     CHECK.due("x", quay.ship(A, 10), 2);
     CHECK.due("cranes at work as before", quay.count(15), 5);
     CHECK.due("acts", quay.count(11), 2);
+    QuayBerths full = Check.told("quay 50;crane 0 9;ship a 50 0 0 4008 0 0 0 1 1;ship b 50 0 0 4008 0 0 0 1 1;");
+    full.put(0, 0, 0, 1);
+    CHECK.due("b has no place beside a", full.itself(1), -2);
+    CHECK.due("but it would have one without it", full.hopeless(), 0);
     QuayBerths none = Check.told("ship a 1 0 0 0 0 0 0 1 1;ship b 1 0 0 0 0 0 0 1 1;");
     CHECK.due("without cranes", none.hopeless(), 3);
     QuayBerths some = Check.told("crane 0 9;crane 5 9;section 20 50;ship a 10 101 0 0 0 0 0 1 1;ship b 10 0 101 0 0 0 0 1 1;"

@@ -87,6 +87,17 @@ public final class TextTest {
     CHECK.due("fault(2)", quay.fault(2), -1);
     CHECK.due("fault(-1)", quay.fault(-1), -1);
     CHECK.due("text(0)", quay.text(0), 0);
+    // what stands behind the text on the tape is not read
+    Check.feed(quay, "quay 60;");
+    CHECK.due("without its ;", quay.text(7), -1);
+    CHECK.due("place", quay.fault(1), 7);
+    Check.feed(quay, "quay 601;");
+    CHECK.due("without its last digit", quay.text(7), -1);
+    CHECK.due("place", quay.fault(1), 7);
+    Check.feed(quay, "quays;");
+    CHECK.due("without its last letter", quay.text(4), -1);
+    CHECK.due("place", quay.fault(1), 4);
+    CHECK.due("text(0)", quay.text(0), 0);
     CHECK.due("no fault", quay.fault(0), 0);
     CHECK.due("no place", quay.fault(1), -1);
   }

@@ -75,6 +75,8 @@ public final class TideTest {
     CHECK.due("like ones", quay.tide(12, 14, 3), 12);
     CHECK.due("like ones", quay.tide(14, 334, 3), 16);
     CHECK.due("one slot", quay.tide(335, 335, 0), 5);
+    CHECK.due("the last slot is the greatest", quay.tide(10, 13, 1), 13);
+    CHECK.due("the last slot is the least", quay.tide(13, 15, 3), 15);
     CHECK.due("the first of like ones", quay.tide(17, 30, 1), 17);
     CHECK.due("what 4", quay.tide(0, 5, 4), -1);
     CHECK.due("what -1", quay.tide(0, 5, -1), -1);

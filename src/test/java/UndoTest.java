@@ -78,6 +78,12 @@ public final class UndoTest {
     CHECK.due("undo", quay.undo(), 0);
     CHECK.due("stays", quay.count(10), 0);
     quay.put(1, 20, 7, 1);
+    CHECK.due("four", quay.four(), 2);
+    CHECK.due("undo", quay.undo(), 1);
+    CHECK.due("b alone", quay.ship(1, 9) + 100 * quay.count(10), 120);
+    CHECK.due("itself", quay.itself(0), 0);
+    CHECK.due("undo", quay.undo(), 1);
+    CHECK.due("b alone", quay.ship(1, 9) + 100 * quay.count(10), 120);
     quay.put(2, 40, 9, 1);
     quay.mark(0);
     CHECK.due("swap", quay.swap(1, 2), 10);
