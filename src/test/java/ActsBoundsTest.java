@@ -34,6 +34,7 @@ public final class ActsBoundsTest {
     noActsBehindBack();
     marksNeverMade();
     differencesOfOneShip();
+    fullHarbour();
     CHECK.end();
   }
 
@@ -500,5 +501,33 @@ public final class ActsBoundsTest {
     // a stay that was, and is no more: none by both
     runs(CRANES + likeShips(2, "10 0 0 12 0 0 0 1 2"), "put 0 5 5 1 = 6", "away 0 = 1", "mark 0 = 0").are("differs 0 = 0", "put 0 6 5 1 = 6",
         "away 0 = 1", "differs 0 = 0");
+  }
+
+  /** All that there can be: 8 sections, 8 cranes, 30 tides, 14 ships, of which each has a STAY. */
+  private static void fullHarbour() {
+    StringBuilder text = new StringBuilder("quay 280;channel 300;");
+    for (int i = 0; i < 8; i++) text.append("section ").append(35 * i).append(" ").append(108 - i).append(";crane 0 279;");
+    for (int i = 0; i < 30; i++) text.append("tide ").append(11 * i).append(" ").append(i % 2).append(";");
+    text.append(likeShips(14, "20 0 0 12 0 9 3 1 1"));
+    String[] rows = new String[14];
+    for (int i = 0; i < 14; i++) rows[i] = "put " + i + " " + 20 * i + " " + (10 + i) + " 1 = " + (11 + i);
+    Runs runs = new Runs(CHECK, text.toString(), rows);
+    runs.are("count 6 = 8", "count 7 = 8", "count 8 = 30", "count 9 = 14", "count 10 = 14", "count 11 = 12", "count 15 = 14", "count 14 = 119",
+        "depth 279 = 101", "depth 244 = 102", "shallow 0 279 = 101", "shallow 245 279 = 101", "shallow 0 34 = 108", "level 319 = 1",
+        "level 318 = 0", "tide 0 335 1 = 11", "shut 300 0 = 0");
+    runs.are("at 10 0 = 0", "at 23 279 = 13", "at 23 259 = -2", "at 24 279 = -2", "at 9 0 = -2", "lies 23 -1 = 1", "lies 23 0 = 13",
+        "lies 23 1 = -2", "free 23 0 = 260", "free 24 0 = 280", "works 0 23 = 13", "works 7 23 = -2", "hours 0 = 14", "hours 7 = 0",
+        "without 7 = 0", "left 13 23 = 12", "left 13 24 = 0", "shift 0 0 0 = 72", "shift 0 1 0 = 96", "busiest 0 = 1", "busiest 1 = 96",
+        "used 0 = 2", "used 1 = 0", "rank 3 1 = 14", "rank 3 2 = 119", "rank 3 3 = 15", "leaver 13 = 13", "leaver 14 = -2",
+        "order 3 13 = 13", "order 3 14 = -2", "meet 12 13 = 0", "along 13 0 = 0", "along 13 1 = 260", "slack 13 = 311", "hopeless = 0",
+        "all 0 = -2", "best 0 = -1", "four = -1", "inWay 13 0 10 1 = 1", "breaks 13 0 10 1 = 7", "places 13 10 1 -1 = 25",
+        "earliest 13 1 0 = 0");
+    // eight cranes in slot 0, six in slot 1
+    runs.are("mark 3 = 14", "squeeze = 14", "ship 7 10 = 0", "ship 8 10 = 1", "ship 13 10 = 1", "lies 0 -1 = 8", "lies 0 7 = 7", "lies 1 -1 = 6",
+        "lies 1 5 = 13", "works 7 0 = 7", "works 5 1 = 13", "works 6 1 = -2", "without 7 = 1", "hours 7 = 1", "free 0 0 = 120",
+        "free 0 1 = 160", "differs 3 = 16383", "swap 0 13 = 2", "swap 13 0 = 2", "squeeze = -1", "undo = 11", "undo = 10", "undo = 9",
+        "differs 3 = 0", "back 3 = 14", "differs 3 = 0");
+    runs.are("away 13 = 1", "squeeze = 13", "itself 13 = 1", "ship 13 9 = 0", "all 0 = -2", "away 0 = 1", "away 13 = 1", "all 0 = 2", "four = -1",
+        "away 13 = 1", "best 2 = 13", "four = 1", "count 10 = 14");
   }
 }

@@ -404,6 +404,11 @@ public final class TextBoundsTest {
     // told by a LINE of another TEXT does not count
     new Runs(CHECK, "quay 60;tide 1 1;ship a" + SHIP_NUMBERS, "tape:quay 60;tide 1 1;ship a" + SHIP_NUMBERS, "text 42 = 3",
         "tape:quay 61;quay 60;", "text 16 = -1", "tape:quay 62;", "text 8 = 1").are("count 0 = 62");
+    // nor do the ships of another TEXT that were behind these
+    String three = "ship x" + SHIP_NUMBERS + "ship y" + SHIP_NUMBERS + "ship a" + SHIP_NUMBERS;
+    String two = "ship a" + SHIP_NUMBERS + "ship a" + SHIP_NUMBERS;
+    new Runs(CHECK, three, "tape:" + two, "text 50 = -1").are("fault 0 = 3", "fault 1 = 30", "tape:" + two.replace("ship a", "ship z"),
+        "text 25 = 1", "count 9 = 1", "letter 0 0 = 26", "letter 1 0 = -1");
   }
 
   private static String rows(int n, String line) {
