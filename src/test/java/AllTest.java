@@ -13,6 +13,8 @@ public final class AllTest {
     allRefused();
     bestOrder();
     fewestLeftOut();
+    bestWithFewerCranes();
+    bestBesideOneAnother();
     firstFourOfMore();
     fewerThanFour();
     fourRefused();
@@ -123,6 +125,57 @@ public final class AllTest {
     CHECK.due("a", dear.best(3), 0);
     CHECK.due("c", dear.best(4), 2);
     CHECK.due("three ships", dear.best(5), -2);
+  }
+
+  /** In an order, too, a ship is put with the most cranes for which there is a place. */
+  private static void bestWithFewerCranes() {
+    QuayBerths quay = Check.told("crane 0 299;crane 0 299;ship a 10 0 0 48 0 0 3 1 2;");
+    CHECK.due("two cranes: it leaves in slot 2", quay.best(1), 2);
+    CHECK.due("four", quay.four(), 1);
+    CHECK.due("its cranes", quay.ship(0, 11), 2);
+    QuayBerths one = Check.told("crane 0 299;ship a 10 0 0 48 0 0 3 1 2;");
+    CHECK.due("none is left out", one.best(0), 0);
+    CHECK.due("one crane: it leaves in slot 4", one.best(1), 4);
+    CHECK.due("four", one.four(), 1);
+    CHECK.due("its cranes", one.ship(0, 11), 1);
+    // 100 boxes take 3 slots with three cranes, 5 with two: from slot 332 on three alone have the time
+    QuayBerths late = Check.told("crane 0 299;crane 0 299;crane 0 299;ship a 10 0 0 100 332 0 3 1 3;");
+    CHECK.due("none is left out", late.best(0), 0);
+    CHECK.due("it leaves in slot 335", late.best(1), 335);
+    CHECK.due("four", late.four(), 1);
+    // a with both cranes first, b (one crane alone reaches 0 to 49) has to wait for slot 1
+    QuayBerths both = Check.told("quay 100;crane 0 99;crane 50 99;ship a 10 0 0 24 0 0 0 1 2;ship b 50 0 0 12 0 0 3 1 1;");
+    CHECK.due("cost", both.best(1), 10);
+    CHECK.due("a first", both.best(2), 0);
+  }
+
+  /** Where the ones ahead in an order lie counts for those behind, and for nobody else. */
+  private static void bestBesideOneAnother() {
+    String cranes = "quay 100;crane 0 99;crane 0 99;crane 0 99;";
+    QuayBerths quay = Check.told(cranes + "ship a 50 0 0 12 0 0 3 1 1;ship b 50 0 0 12 0 0 3 1 1;");
+    CHECK.due("side by side: both leave in slot 1", quay.best(1), 2);
+    CHECK.due("four", quay.four(), 2);
+    CHECK.due("b's metre", quay.ship(1, 9), 50);
+    QuayBerths longer = Check.told(cranes + "ship a 50 0 0 12 0 0 3 1 1;ship b 51 0 0 12 0 0 3 1 1;");
+    CHECK.due("one behind the other", longer.best(1), 3);
+    // a and b have 5 slots together, c has 5 alone: the first order leaves out one, that with c ahead two
+    QuayBerths first = Check.told("quay 100;crane 0 99;ship a 10 0 0 24 330 999 0 1 1;ship b 10 0 0 36 330 999 0 1 1;"
+        + "ship c 10 0 0 60 330 999 0 1 1;");
+    int[] due = {1, 0, 0, 1, 2, -2};
+    for (int what = 0; what < due.length; what++) CHECK.due("best " + what, first.best(what), due[what]);
+    CHECK.due("four", first.four(), 2);
+    // the same, but the two that can be put are dear: 332 and 335, if a comes first; c alone would cost nothing
+    QuayBerths dear = Check.told("quay 100;crane 0 99;ship a 10 0 0 24 330 0 3 1 1;ship b 10 0 0 36 330 0 3 1 1;"
+        + "ship c 10 0 0 60 330 999 3 1 1;");
+    int[] dearest = {1, 667, 0, 1, 2, -2};
+    for (int what = 0; what < dearest.length; what++) CHECK.due("dear best " + what, dear.best(what), dearest[what]);
+    // a ship with a stay is in the way of all orders, and none of the orders that were tried is
+    QuayBerths lying = Check.told("quay 100;crane 0 99;crane 0 99;ship a 100 0 0 24 0 0 3 1 1;ship b 100 0 0 24 1 0 3 1 1;"
+        + "ship c 100 0 0 12 0 0 3 1 1;");
+    CHECK.due("put c", lying.put(2, 0, 1, 1), 2);
+    CHECK.due("a, then b: they leave in slots 4 and 6", lying.best(1), 10);
+    CHECK.due("c still lies there alone", lying.lies(1, -1) * 10 + lying.lies(3, -1), 10);
+    CHECK.due("no cranes at work but its own", lying.count(15), 1);
   }
 
   private static void firstFourOfMore() {

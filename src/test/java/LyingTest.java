@@ -20,6 +20,7 @@ public final class LyingTest {
     whatIsFree();
     whichCraneWorks();
     whichCraneIsPassedOver();
+    byMetreInEachSlot();
     afterALookAtAnotherStay();
     whatIsLeft();
     shifts();
@@ -97,6 +98,22 @@ public final class LyingTest {
     for (int crane = 0; crane < 4; crane++) CHECK.due("hours " + crane, quay.hours(crane), hours[crane]);
     int[] without = {0, 1, 1, 1};
     for (int crane = 0; crane < 4; crane++) CHECK.due("without " + crane, quay.without(crane), without[crane]);
+  }
+
+  /** a at 50 to 59 and c at 10 to 19 lie there in slot 0, b along the whole quay in slot 5: it is not between them. */
+  private static void byMetreInEachSlot() {
+    QuayBerths quay = Check.told("quay 100;crane 0 99;crane 0 99;ship a 10 0 0 12 0 0 0 1 1;ship b 100 0 0 12 0 0 0 1 1;"
+        + "ship c 10 0 0 12 0 0 0 1 1;");
+    CHECK.due("put a", quay.put(0, 50, 0, 1), 1);
+    CHECK.due("put b", quay.put(1, 0, 5, 1), 6);
+    CHECK.due("put c", quay.put(2, 10, 0, 1), 1);
+    CHECK.due("c is the first along the quay", quay.lies(0, 0), 2);
+    CHECK.due("a the second", quay.lies(0, 1), 0);
+    CHECK.due("crane 0", quay.works(0, 0), 2);
+    CHECK.due("crane 1", quay.works(1, 0), 0);
+    CHECK.due("free from 60 on", quay.free(0, 1), 60);
+    CHECK.due("40 metres", quay.free(0, 0), 40);
+    CHECK.due("b alone", quay.lies(5, 0), 1);
   }
 
   /** A look at other stays while c is away leaves no trace when c is back. */

@@ -3,6 +3,7 @@ import java.lang.reflect.Method;
 import java.lang.reflect.Modifier;
 import java.util.ArrayList;
 import java.util.Arrays;
+import java.util.Collections;
 import java.util.HashMap;
 import java.util.List;
 import java.util.Map;
@@ -146,6 +147,17 @@ public final class Runs {
     }
   }
 
+  /** The stays of these runs and those of others are the same: all that is told of them is, however they came to be. */
+  public void lieAs(Runs other, String behind) {
+    for (List<String> watch : asked()) {
+      Counted one = made();
+      Counted another = other.made();
+      for (String call : watch) {
+        if (!call.matches("(count 1[12]|differs .*)")) check.due(call + " behind " + behind, another.call(call), one.call(call));
+      }
+    }
+  }
+
   /** Objects of these runs and those of others answer all calls alike, but those that begin as told. */
   public void answersAs(Runs other, String behind, String but) {
     for (List<String> watch : watches()) {
@@ -157,16 +169,26 @@ public final class Runs {
     }
   }
 
+  /** Rows of calls that only ask, once from the last one on, too: what a call leaves behind may hide from the next one. */
+  private List<List<String>> asked() {
+    Counted made = made();
+    int ships = made.call("count 9");
+    int cranes = made.call("count 7");
+    List<List<String>> all = new ArrayList<>(List.of(told(ships, cranes), lying(ships, cranes), reckoned(ships)));
+    for (int i = 0; i < 3; i++) {
+      List<String> backwards = new ArrayList<>(all.get(i));
+      Collections.reverse(backwards);
+      all.add(backwards);
+    }
+    return all;
+  }
+
   /** Rows of calls that together tell all that can be told of an object: behind each a new one is needed. */
   private List<List<String>> watches() {
     Counted made = made();
     int ships = made.call("count 9");
-    int cranes = made.call("count 7");
     int tape = made.call("count 13");
-    List<List<String>> all = new ArrayList<>();
-    all.add(told(ships, cranes));
-    all.add(lying(ships, cranes));
-    all.add(reckoned(ships));
+    List<List<String>> all = asked();
     all.add(written());
     all.add(undone(ships));
     for (int mark = 0; mark < 4; mark++) all.add(behind(List.of("back " + mark, "undo"), ships));

@@ -268,6 +268,15 @@ public final class TextTest {
     fault("gangs 1 0 2;gangs 0 1 2;gangs 1 0 2;", 3, 32);
     fault("ship ab" + SHIP_NUMBERS + "ship a" + SHIP_NUMBERS + "ship ab" + SHIP_NUMBERS, 3, 56);
     fault("ship a" + SHIP_NUMBERS + "ship a;", 3, 30);
+    // not the first one that was told, and not the one told last
+    fault("section 5 1;section 6 2;section 7 3;section 6 4;", 3, 44);
+    fault("section 5 1;section 6 2;section 7 3;section 7 4;", 3, 44);
+    fault("tide 5 1;tide 6 2;tide 7 3;tide 6 4;", 3, 32);
+    fault("tide 5 1;tide 6 2;tide 7 3;tide 7 4;", 3, 32);
+    fault("gangs 0 0 1;gangs 0 1 1;gangs 0 2 1;gangs 0 1 2;", 3, 44);
+    fault("ship a" + SHIP_NUMBERS + "ship b" + SHIP_NUMBERS + "ship c" + SHIP_NUMBERS + "ship b", 3, 80);
+    // what a section or a tide tells is no metre, no slot
+    good("section 5 6;section 6 5;tide 7 8;tide 8 7;crane 1 2;crane 1 2;", 6);
   }
 
   private static void oneTooMany() {
